@@ -386,6 +386,9 @@ public final class HandsPicture {
         private final int[] gap = new int[LAWS_MOST];
         private final int[] weight = new int[LAWS_MOST];
         private final int[] where = new int[LAWS_MOST];
+        private int firmOnes;
+        private int stiffOnes;
+        private int acrossOnes;
         private int size;
 
         int size() {
@@ -397,10 +400,13 @@ public final class HandsPicture {
         }
 
         void empty() {
+            firmOnes = 0;
+            stiffOnes = 0;
+            acrossOnes = 0;
             size = 0;
         }
 
-        /** A LAW that is being read: its place is there before its last TOKEN is. */
+        /** A LAW is told in two parts, as it is read; it is one of these LAWS only once it is closed. */
         void open(int itsWeight, int itsWhere, int itsWord) {
             weight[size] = itsWeight;
             where[size] = itsWhere;
@@ -411,6 +417,9 @@ public final class HandsPicture {
             first[size] = itsFirst;
             second[size] = itsSecond;
             gap[size] = itsGap;
+            firmOnes |= weight[size] == 0 ? 1 << size : 0;
+            stiffOnes |= isStiff(size) ? 1 << size : 0;
+            acrossOnes |= axis(size) == X ? 1 << size : 0;
             size++;
         }
 
@@ -466,33 +475,15 @@ public final class HandsPicture {
         }
 
         int firm(int among) {
-            int found = 0;
-            for (int i = 0; i < size; i++) {
-                if (weight[i] == 0) {
-                    found |= 1 << i;
-                }
-            }
-            return found & among;
-        }
-
-        int ofAxis(int among, int axis) {
-            int found = 0;
-            for (int i = 0; i < size; i++) {
-                if (axis(i) == axis) {
-                    found |= 1 << i;
-                }
-            }
-            return found & among;
+            return firmOnes & among;
         }
 
         int stiff(int among) {
-            int found = 0;
-            for (int i = 0; i < size; i++) {
-                if (isStiff(i)) {
-                    found |= 1 << i;
-                }
-            }
-            return found & among;
+            return stiffOnes & among;
+        }
+
+        int ofAxis(int among, int axis) {
+            return (axis == X ? acrossOnes : ~acrossOnes) & among;
         }
 
         boolean holds(int i, int[] values) {
@@ -1441,7 +1432,7 @@ public final class HandsPicture {
     private static final class Words {
         private final int[] width = new int[WORDS_MOST];
         private final int[] least = new int[WORDS_MOST + 1];
-        private final int[] nextRow = new int[WORDS_MOST + 1];
+        private final int[] nextRow = new int[WORDS_MOST];
         private int size;
 
         int size() {

@@ -61,6 +61,7 @@ public final class PromiseTest {
         setLeastMoved();
         setByWishes();
         setOfSeveral();
+        setAfterChanges();
         setRefused();
         aboutSet();
         quarrels();
@@ -501,6 +502,28 @@ public final class PromiseTest {
         dueSet(it, 20, 1, 5, 6, 5, 5, 5, 5);
         it = with("tall B A 1;");
         dueSet(it, 20, 1, 5, 4, 5, 5, 5, 5);
+    }
+
+    private static void setAfterChanges() {
+        begin("16 set, asked again after something changed");
+        HandsPicture it = with("wide A B 3;");
+        due("at first", it.set(0, 20, 0, 0), 2);
+        it.move(0, 0, 7, 5);
+        due("after move", it.set(0, 20, 0, 0), 2);
+        due("after move", it.about(0, 20, 1), 5);
+        it.move(0, 1, 10, 5);
+        due("after another", it.set(0, 20, 0, 0), 7);
+        it.back(0, 1);
+        due("after back", it.set(0, 20, 0, 0), 2);
+        it.lay(0, 0, 0);
+        due("after lay", it.set(0, 20, 0, 0), 7);
+        due("of another hand", it.set(1, 20, 0, 0), 2);
+        it.join(1, 0);
+        due("after join", it.set(1, 20, 0, 0), 7);
+        type(it, "wide B A 1;");
+        it.laws();
+        due("after laws", it.set(1, 20, 0, 0), 6);
+        due("on another sheet", it.set(1, 5, 0, 0), 4);
     }
 
     private static void setRefused() {
