@@ -632,7 +632,7 @@ public final class HandsPicture {
 
         private int endOfRun(int from, int low, int high) {
             int at = from;
-            while (at < length && within(text[at], low, high)) {
+            while (at < length && text[at] >= low && text[at] <= high) {
                 at++;
             }
             return at;
@@ -920,9 +920,6 @@ public final class HandsPicture {
 
         void openPlane() {
             fillApart(FAR);
-            for (int i = 0; i < POINTS; i++) {
-                least[GROUND * NODES + i] = FAR;
-            }
         }
 
         /** The GROUND is 0: all POINTS are at it or beyond, by less than the size. */
