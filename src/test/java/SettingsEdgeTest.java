@@ -252,6 +252,13 @@ public final class SettingsEdgeTest {
         checks.due("just fit", it.about(0, 4, 0), 54);
         checks.due("on 3 not all", it.about(0, 3, 0), 36);
         checks.due("on 2 fewer still", it.about(0, 2, 0), 18);
+        for (String word : new String[] {"wide", "tall"}) {
+            String links = "wish 9 # AB 1; wish 9 # BC 1; wish 9 # CD 1; wish 9 # DE 1; wish 9 # EF 1; wish 9 # AF 5;";
+            it = Checks.with(links.replace("#", word));
+            checks.due("all of one axis", it.about(0, 20, 0), 54);
+            checks.due("just fit", it.about(0, 6, 0), 54);
+            checks.due("on 5 four of them", it.about(0, 5, 0), 36);
+        }
     }
 
     private static void weightAheadOfMoved() {
@@ -588,7 +595,7 @@ public final class SettingsEdgeTest {
         checks.due("for another HAND", it.knot(1, 9, 0, 1), 3);
     }
 
-    /** Thrice, for rows of LAWS may be used again. */
+    /** Thrice, and five readings each time, for rows of LAWS may be used again by turns. */
     private static void lawsReadOverOthers() {
         checks.sentence("THE TEXT becomes THE LAWS: nothing of those that stood there before is left");
         HandsPicture it = Checks.with("right A B 1; right B A 0; plumb C D;");
@@ -608,6 +615,8 @@ public final class SettingsEdgeTest {
             checks.due("not forced", it.forced(0, 20, 0), 0);
             Checks.readAnew(it, "right A B 1; right B A 0; plumb C D;");
             dueQuarrel(it, 20, 2, 3);
+            checks.due("none at all", it.laws(), 0);
+            checks.due("alone", it.knot(0, 20, 2, 0), 4);
         }
     }
 }
