@@ -562,15 +562,20 @@ public final class HandsPicture {
             int weight = 0;
             int where = 0;
             if (isWord(WISH)) {
-                if (wishes == WISHES_MOST || !numberFollows(1, 9)) {
+                if (wishes == WISHES_MOST) {
                     return false;
                 }
                 wishes++;
+                advance();
+                if (!isNumber(1, 9)) {
+                    return false;
+                }
                 weight = value;
                 advance();
             }
             if (isWord(WHERE)) {
-                if (!numberFollows(2, SIDE)) {
+                advance();
+                if (!isNumber(2, SIDE)) {
                     return false;
                 }
                 where = value;
@@ -594,11 +599,15 @@ public final class HandsPicture {
                 return false;
             }
             int second = value;
-            if (withGap && !numberFollows(0, SIDE - 1)) {
-                return false;
-            }
-            int gap = withGap ? value : 0;
+            int gap = 0;
             advance();
+            if (withGap) {
+                if (!isNumber(0, SIDE - 1)) {
+                    return false;
+                }
+                gap = value;
+                advance();
+            }
             if (token != STOP) {
                 return false;
             }
@@ -611,8 +620,7 @@ public final class HandsPicture {
             return token == WORD && value == number;
         }
 
-        private boolean numberFollows(int least, int most) {
-            advance();
+        private boolean isNumber(int least, int most) {
             return token == NUMBER && within(value, least, most);
         }
 
